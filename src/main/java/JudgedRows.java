@@ -26,16 +26,16 @@ public final class JudgedRows {
     private static final String KIND_LETTERS = "jstwc";
 
     private final Page page = new Page();
-    private final Rows rows = new Rows();
     private final Judge[] kinds = {
         new Judge(), new ShortJudge(), new SternJudge(), new WrongJudge(), new CurtJudge()
     };
     private final int[] words = new int[KINDS];
     private final Course now = new Course();
     private final Course kept = new Course();
-    private final Pool pool = new Pool(rows);
-    private final Parting parting = new Parting(rows);
-    private final Tries trial = new Tries(rows, pool);
+    private final Rows rows;
+    private final Pool pool;
+    private final Parting parting;
+    private final Tries trial;
     private int judges;
     private boolean imageStands;
     private int gamesRead;
@@ -44,6 +44,12 @@ public final class JudgedRows {
     private int partsDone;
 
     public JudgedRows() {
+        Rows allRows = new Rows();
+        Pool rowsLeft = new Pool(allRows);
+        rows = allRows;
+        pool = rowsLeft;
+        parting = new Parting(allRows);
+        trial = new Tries(allRows, rowsLeft);
     }
 
     // ---- the game
@@ -280,7 +286,8 @@ public final class JudgedRows {
         pool.fill();
         int behind = 0;
         for (; behind < LONGEST && pool.size > 1; behind++) {
-            int shown = pool.bestRow(asked);
+            // There is always one: more than one row fits here.
+            int shown = Math.max(pool.bestRow(asked), 0);
             pool.keep(asked, shown, asked.word(rows, shown, row));
         }
         return pool.size == 1 ? behind : NONE;
@@ -845,7 +852,10 @@ public final class JudgedRows {
                 often[told] = 0;
             }
             for (int at = 0; at < size; at++) {
-                often[judge.word(rows, shown, members[at])]++;
+                int told = judge.word(rows, shown, members[at]);
+                if (told >= 0 && told < often.length) {
+                    often[told]++;
+                }
             }
         }
     }
@@ -866,7 +876,7 @@ public final class JudgedRows {
 
         void find(Judge judge) {
             int due = sortsOfRows(judge);
-            // No row at all is never enough: by the row of one colour every judge tells some apart.
+            // No row at all is never enough: by a row of one colour every judge tells some apart.
             for (int one = 0; one < rows.size; one++) {
                 if (partsBy(judge, one, one) == due) {
                     answer(1, one, NONE);
@@ -909,7 +919,7 @@ public final class JudgedRows {
             int parts = 0;
             for (int hidden = 0; hidden < rows.size; hidden++) {
                 int pair = judge.word(rows, one, hidden) * WORDS + judge.word(rows, other, hidden);
-                if (marks[pair] != trials) {
+                if (pair >= 0 && pair < marks.length && marks[pair] != trials) {
                     marks[pair] = trials;
                     parts++;
                 }
