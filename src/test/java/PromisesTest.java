@@ -1,4 +1,7 @@
-/** For each promise: ordinary inputs, the edges that the document names, wrong inputs; all worked out by hand. */
+/**
+ * For each promise: ordinary inputs, the edges that the document names, wrong inputs.
+ * What is due was worked out by hand, but where a comment says otherwise.
+ */
 public final class PromisesTest {
     private static final int NONE = -1, UNKNOWN = -101, OUTSIDE = -102, STATE = -103, FULL = -104;
     private static final int LEAST = Integer.MIN_VALUE, MOST = Integer.MAX_VALUE;
@@ -646,6 +649,7 @@ public final class PromisesTest {
         due("parts(): 2 are not enough, the first", y.parts(0, 1), NONE);
         due("parts(): 2 are not enough, the second", y.parts(0, 2), NONE);
         due("NONE is done, too", y.count(10), 3);
+        // This one is the shared test's.
         due("parts() of 64 rows", of("34;j;aaa").parts(0, 0), NONE);
         JudgedRows z = of("35;j;aaa");
         due("parts() of 125 rows", z.parts(0, 0), STATE);
