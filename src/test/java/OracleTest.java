@@ -31,8 +31,8 @@ public final class OracleTest {
         Oracle oracle = new Oracle();
         int calls = 0;
         while (calls < CALLS && due.wrong() < 20) {
-            // Now and then a whole text is written, so that games are read often.
-            if (calls == 0 || random.nextInt(60) == 0) {
+            // Now and then a whole text is written, so that games are read often; never past the last call.
+            if (calls == 0 || random.nextInt(60) == 0 && calls < CALLS - 20) {
                 String text = text(random, run);
                 for (int at = 0; at < text.length(); at++) {
                     call(due, run, calls++, subject, oracle, 0, new int[] {text.charAt(at)});

@@ -3,8 +3,8 @@
  * What is due was worked out by hand, but where a comment says otherwise.
  */
 public final class PromisesTest {
-    private static final int NONE = -1, UNKNOWN = -101, OUTSIDE = -102, STATE = -103, FULL = -104;
-    private static final int LEAST = Integer.MIN_VALUE, MOST = Integer.MAX_VALUE;
+    private static final int NONE = Games.NONE, UNKNOWN = Games.UNKNOWN, OUTSIDE = Games.OUTSIDE;
+    private static final int STATE = Games.STATE, FULL = Games.FULL, LEAST = Games.LEAST, MOST = Games.MOST;
     private static final Due DUE = new Due();
 
     public static void main(String[] args) {
@@ -44,18 +44,11 @@ public final class PromisesTest {
     }
 
     private static void write(JudgedRows x, String text) {
-        for (int at = 0; at < text.length(); at++) {
-            x.letter(text.charAt(at));
-        }
+        Games.write(x, text);
     }
 
     private static JudgedRows of(String text) {
-        JudgedRows x = new JudgedRows();
-        write(x, text);
-        if (x.game() < 2) {
-            due("game() of " + text, 0, 1);
-        }
-        return x;
+        return Games.of(text);
     }
 
     // ---- promise 1
@@ -805,10 +798,6 @@ public final class PromisesTest {
     }
 
     private static long sum(int... numbers) {
-        long h = 1297;
-        for (int number : numbers) {
-            h = 31 * h + number;
-        }
-        return h;
+        return Games.sum(numbers);
     }
 }
