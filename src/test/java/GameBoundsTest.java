@@ -18,6 +18,7 @@ public final class GameBoundsTest {
         unfinishedPages();
         oneLetterElse();
         anotherGame();
+        nothingOfAnEarlierGame();
         manyGames();
         numbersOfJudges();
         shownToJudges();
@@ -265,6 +266,44 @@ public final class GameBoundsTest {
         due("larger: row(215, 1)", x.row(215, 1), 5);
         due("larger: judge(2, 0)", x.judge(2, 0), 4);
         due("larger: left", x.left(), 216);
+    }
+
+    /** A game is told in the same way by a new object and by one that has read a larger game ahead of it. */
+    private static void nothingOfAnEarlierGame() {
+        for (String earlier : new String[] {"36;www;fff", "34;jjj;ddd", "26;sss;ff"}) {
+            for (int size = 0; size < 15; size++) {
+                for (int kind = 0; kind < 5; kind++) {
+                    int pegs = 1 + size / 5;
+                    String text = "" + pegs + (2 + size % 5) + ";" + KINDS.charAt(kind) + ";" + "bab".substring(0, pegs);
+                    JudgedRows x = Games.of(earlier);
+                    x.note(7, 2, 40);
+                    x.image();
+                    Games.write(x, text);
+                    x.game();
+                    alike(text + " behind " + earlier, x, Games.of(text));
+                }
+            }
+        }
+    }
+
+    private static void alike(String name, JudgedRows x, JudgedRows fresh) {
+        for (int what = 0; what <= 4; what++) {
+            due(name + ": judge(0, " + what + ")", x.judge(0, what), fresh.judge(0, what));
+        }
+        for (int what = 0; what <= 2; what++) {
+            due(name + ": best(0, " + what + ")", x.best(0, what), fresh.best(0, what));
+            due(name + ": parts(0, " + what + ")", x.parts(0, what), fresh.parts(0, what));
+            due(name + ": tries(0, 20, 5, " + what + ")", x.tries(0, 20, 5, what), fresh.tries(0, 20, 5, what));
+            due(name + ": rest(1, 0, " + what + ")", x.rest(1, 0, what), fresh.rest(1, 0, what));
+        }
+        for (int row = 0; row < 6; row++) {
+            due(name + ": howLong(0, " + row + ")", x.howLong(0, row), fresh.howLong(0, row));
+            due(name + ": fits(" + row + ")", x.fits(row), fresh.fits(row));
+        }
+        due(name + ": show(1, 0)", x.show(1, 0), fresh.show(1, 0));
+        due(name + ": left()", x.left(), fresh.left());
+        due(name + ": best() then", x.best(0, 0), fresh.best(0, 0));
+        due(name + ": restore()", x.restore(), fresh.restore());
     }
 
     private static void manyGames() {

@@ -15,6 +15,8 @@ public final class WouldBeBoundsTest {
         fewFit();
         bestOfOnePeg();
         bestOfFewLeft();
+        bestThatDoesNotFit();
+        bestOfAllRows();
         bestIsDone24Times();
         rests();
         restsOfOnePeg();
@@ -135,6 +137,23 @@ public final class WouldBeBoundsTest {
         due("best(1, 1) of twins", two.best(1, 1), 2);
         due("best(0, 0) of these", two.best(0, 0), 0);
         due("best(0, 1) of these", two.best(0, 1), 1);
+    }
+
+    private static void bestThatDoesNotFit() {
+        JudgedRows x = Games.of("23;c;aa");
+        x.note(0, 0, 0);
+        due("of aa, bb and cc none is odd beside aa or bb", x.note(4, 0, 0), 3);
+        // Beside aa all three are even; beside ab aa and bb are odd: it is ahead of aa, though that one is less and fits.
+        due("best(0, 0) does not fit", x.best(0, 0), 1);
+        due("best(0, 1): two at worst", x.best(0, 1), 2);
+        due("it does not fit", x.row(1, 0), 0);
+    }
+
+    private static void bestOfAllRows() {
+        // Whatever is shown to a stern one: of 5 times 5 times 5 rows no peg is right.
+        JudgedRows x = Games.of("36;t;fff");
+        due("best(0, 0) of all 216: all rows are alike", x.best(0, 0), 0);
+        due("best(0, 1) of all 216", x.best(0, 1), 125);
     }
 
     private static void bestIsDone24Times() {
@@ -462,6 +481,12 @@ public final class WouldBeBoundsTest {
         // For a wrong one ba is read ab: aa, ac, bb and cb are told 10 of it as aa is, ba itself 2: again aa is drawn.
         due("tries() of a wrong one", Games.of("23;w;cc").tries(0, 1, 0, 0), 2);
         due("tries(): the seed", Games.of("23;t;cc").tries(0, 1, 0, 2), 654583775);
+        // From SEED 9 on: 1341714958, 731087919, 728746556: draws 20472, 11155, 11119.
+        // aa is hidden, bb is shown to a curt one: 0, as bb itself would be: it fits, but it was shown, so aa alone is left.
+        due("tries(): what was shown is not shown again", Games.of("22;c;ab").tries(0, 1, 9, 0), 2);
+        due("tries(): a draw of one is a draw, too", Games.of("22;c;ab").tries(0, 1, 9, 2), 728746556);
+        // From SEED 17 on: draws 24107, 16552: bb is hidden, aa is shown: the other way round.
+        due("tries(): nor is one that is less", Games.of("22;c;ab").tries(0, 1, 17, 0), 2);
     }
 
     private static void triesChangeNothing() {
