@@ -442,6 +442,11 @@ public final class GameBoundsTest {
         due("twins: c, aa and bb", Games.of("22;c;ab").judge(0, 4), 3);
         // aaa and abb: by 0, 1, 2, 3 a's of what is shown 0, 1, 2, 3 and 2, 3, 2, 1 are alike.
         due("twins: c, aaa and abb", Games.of("32;c;aab").judge(0, 4), 3);
+        // With a third colour ac parts aa from bb, and bcc parts aaa from abb: the first twins are those of a short one.
+        for (int colours = 3; colours <= 6; colours++) {
+            due("twins: c, two pegs", Games.of("2" + colours + ";c;ab").judge(0, 4), 1000 + colours);
+            due("twins: c, three pegs", Games.of("3" + colours + ";c;aba").judge(0, 4), 1000 + colours);
+        }
         JudgedRows x = Games.of("22;j;ab");
         due("twins: j", x.judge(0, 4), NONE);
         x.swap(0, 1);
