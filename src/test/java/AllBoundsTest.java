@@ -194,24 +194,31 @@ public final class AllBoundsTest {
     // ---- promise 27
 
     private static void digestOfEachState() {
-        JudgedRows x = Games.of("22;jsc;ab");
-        digest("at the start", x, "");
-        for (int many = 0; many < 12; many++) {
-            x.show(many % 4, many % 3);
-            digest("behind " + (many + 1), x, "");
+        // An object for each state: putting a digest together takes many calls.
+        for (int many = 0; many <= 12; many++) {
+            digest("behind " + many, shown(many), "");
         }
-        x.swap(1, 3);
-        digest("behind swap()", x, "");
-        x.hide(3);
-        digest("behind hide()", x, "");
-        x.best(0, 0);
-        x.howLong(0, 0);
-        x.parts(0, 0);
-        Games.write(x, "~22;");
-        digest("with a page", x, "~22;");
-        JudgedRows y = Games.of("36;jwt;abf");
-        y.note(215, 0, 40);
-        digest("when none fits", y, "");
+        JudgedRows swapped = shown(12);
+        swapped.swap(1, 3);
+        digest("behind swap()", swapped, "");
+        swapped.hide(3);
+        digest("behind hide()", swapped, "");
+        swapped.best(0, 0);
+        swapped.howLong(0, 0);
+        swapped.parts(0, 0);
+        Games.write(swapped, "~22;");
+        digest("with a page", swapped, "~22;");
+        JudgedRows none = Games.of("36;jwt;abf");
+        none.note(215, 0, 40);
+        digest("when none fits", none, "");
+    }
+
+    private static JudgedRows shown(int many) {
+        JudgedRows x = Games.of("22;jsc;ab");
+        for (int number = 0; number < many; number++) {
+            x.show(number % 4, number % 3);
+        }
+        return x;
     }
 
     /** As the document puts it together, from what the other calls tell. */
