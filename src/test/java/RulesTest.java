@@ -4,14 +4,10 @@ import java.lang.reflect.Constructor;
 import java.lang.reflect.Field;
 import java.lang.reflect.Method;
 import java.lang.reflect.Modifier;
-import java.nio.file.Files;
-import java.nio.file.Path;
 import java.util.Set;
 import java.util.TreeSet;
-import java.util.regex.Matcher;
-import java.util.regex.Pattern;
 
-/** What can be looked at of LANGUAGE.md without a parser: the face, the words, the sizes, and the room. */
+/** What can be looked at of the class as it runs: the face, the constants, the room; its source: SourceRulesTest. */
 public final class RulesTest {
     private static final Due DUE = new Due();
     private static final String[] FACE = {
@@ -22,11 +18,9 @@ public final class RulesTest {
         "int tries(int,int,int,int)", "int image()", "int restore()", "int count(int)", "long digest()"
     };
 
-    public static void main(String[] args) throws Exception {
+    public static void main(String[] args) {
         face();
         constants();
-        nested();
-        words();
         room();
         DUE.end();
     }
@@ -73,56 +67,6 @@ public final class RulesTest {
         DUE.is("OUTSIDE", JudgedRows.OUTSIDE, -102);
         DUE.is("STATE", JudgedRows.STATE, -103);
         DUE.is("FULL", JudgedRows.FULL, -104);
-    }
-
-    private static void nested() {
-        Set<String> open = new TreeSet<>();
-        for (String each : FACE) {
-            open.add(each.substring(each.indexOf(' ') + 1, each.indexOf('(')));
-        }
-        Class<?>[] inside = JudgedRows.class.getDeclaredClasses();
-        DUE.holds("twelve classes at most", inside.length + 1 <= 12);
-        for (Class<?> each : inside) {
-            DUE.holds("static: " + each, Modifier.isStatic(each.getModifiers()));
-            DUE.holds("twenty fields at most: " + each, each.getDeclaredFields().length <= 20);
-            for (Method method : each.getDeclaredMethods()) {
-                DUE.holds("a name of its own: " + method, !open.contains(method.getName()));
-                DUE.holds("seven parameters at most: " + method, method.getParameterCount() <= 7);
-            }
-        }
-    }
-
-    private static void words() throws Exception {
-        String text = Files.readString(Path.of("src/main/java/JudgedRows.java"));
-        String code = text.replaceAll("(?s)/\\*.*?\\*/", "").replaceAll("//[^\n]*", "");
-        String[] banned = {
-            "throw", "throws", "try", "catch", "synchronized", "assert", "import", "package", "protected", "Random",
-            "Thread", "Object", "Exception", "hashCode", "toString", "Override", "var", "native"
-        };
-        for (String word : banned) {
-            DUE.holds("no word " + word, !Pattern.compile("\\b" + word + "\\b").matcher(code).find());
-        }
-        DUE.holds("no arrow, no method reference", !code.contains("->") && !code.contains("::"));
-        Matcher called = Pattern.compile("\\b(Math|Integer|Long|System|Arrays)\\.(\\w+)").matcher(code);
-        while (called.find()) {
-            DUE.holds("of the library: " + called.group(),
-                Set.of("Math.max", "Math.min", "Integer.bitCount", "System.arraycopy").contains(called.group()));
-        }
-        longest(code.split("\n"));
-    }
-
-    /** A method goes from a line that ends with "{" behind a ")" to the "}" under its first letter. */
-    private static void longest(String[] lines) {
-        for (int from = 0; from < lines.length; from++) {
-            Matcher head = Pattern.compile("^( {4}| {8})(\\w[\\w\\[\\] ]*)\\(.*\\) \\{$").matcher(lines[from]);
-            if (head.matches() && !head.group(2).matches("(if|for|while|switch|.*else if) ?")) {
-                int to = from;
-                while (to < lines.length && !lines[to].equals(head.group(1) + "}")) {
-                    to++;
-                }
-                DUE.holds("sixty lines at most: " + lines[from].strip(), to - from < 60);
-            }
-        }
     }
 
     /** All that is needed is made in the constructor: the dearest calls make nothing. */
